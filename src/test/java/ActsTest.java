@@ -157,6 +157,16 @@ public final class ActsTest {
         Check.same("none at all", Check.landed("person p born 0 lifts 9 dents 0;").person(0, 6), 0);
         LeadNames w = Check.landed("person p born 0 lifts 10 dents 0;title a honour 1;");
         Check.same("just as many ounces", w.person(0, 6), 1);
+        LeadNames v = Check.landed("letter a 10;letter b 11;letter c 11;letter d 12;"
+                + "person p born 0 lifts 22 dents 0;title a honour 5;title b honour 5;"
+                + "title c honour 5;title d honour 5;");
+        Check.same("the least number of bits", v.person(0, 6), 3);
+        // The first and the last (9) against the two between (6): as much, as many, less bits.
+        LeadNames u = Check.landed("letter a 10;letter b 11;letter c 11;letter d 12;"
+                + "person p born 0 lifts 22 dents 0;title a honour 3;title b honour 4;"
+                + "title c honour 6;title d honour 7;");
+        Check.same("the least number of bits", u.person(0, 6), 6);
+        Check.same("its honour", u.person(0, 7), 10);
     }
 
     private static void gain() {
@@ -290,6 +300,17 @@ public final class ActsTest {
         Check.same("who", x.moved(2, 2), 2);
         Check.same("the other one", x.moved(2, 3), 0);
         Check.same("refusals", x.status(2), 8);
+        // The heap is no person, whatever its number would be.
+        for (int number = 3; number <= 9; number++) {
+            Check.same("no person", x.trade(number, 'c', 2, 'b'), false);
+            Check.same("no person", x.trade(2, 'b', number, 'c'), false);
+            Check.same("no person", x.steal(0, number, 'c'), false);
+            Check.same("no person", x.steal(number, 0, 'c'), false);
+            Check.same("no person", x.loose(number, 'c'), -1);
+            Check.same("no person", x.drown(number), -1);
+            Check.same("no person", x.heir(number, 0), -1);
+            Check.same("no person", x.common(number, 0), -1);
+        }
         // A letter in a title is not loose.
         LeadNames y = Check.landed(LAND + "has ada ab;has ben abc;");
         Check.same("not loose", y.trade(0, 'a', 1, 'c'), false);
@@ -436,6 +457,10 @@ public final class ActsTest {
         Check.same("of nothing", x.heir(1, 0), 0);
         Check.same("a move", x.has(8), 2);
         Check.same("refusals", x.status(3), 3);
+        // At the limit nothing comes, however light.
+        LeadNames w = Check.landed("letter a 1;person p born 0 lifts 0 dents 0;person q born 0 lifts "
+                + "0 dents 0;title a honour 1;has p a;");
+        Check.same("not one ounce", w.heir(0, 1), 0);
         // Above the limit nothing comes; loose letters go to the heap.
         LeadNames y = Check.landed(LAND + "has cy ab;has ada abc;");
         y.steal(0, 2, 'a');
@@ -471,6 +496,12 @@ public final class ActsTest {
         Check.same("not those of q", y.person(1, 5), 1);
         Check.same("one move", y.has(8), 1);
         Check.same("heap", y.loose(-1, 'c'), 1);
+        // Just at the limit without the loose ones: all titles stay, also one without honour.
+        LeadNames w = Check.landed("person p born 0 lifts 20 dents 0;person q born 0 lifts 20 dents "
+                + "0;title ab honour 0;title cd honour 1;has p ab;has q cd;");
+        w.steal(0, 1, 'c');
+        Check.same("all titles stay", w.years(1), 0);
+        Check.same("all titles stay", w.person(0, 4), 1);
         // Loans stay.
         LeadNames z = Check.landed("person p born 0 lifts 20 dents 0;person q born 0 lifts 20 dents "
                 + "0;title ab honour 3;has p ab;age 0 100;age 1 0;");

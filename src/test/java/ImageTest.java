@@ -150,6 +150,8 @@ public final class ImageTest {
         good("all titles", with(2, 0, 7));
         bad("a title that is not there", with(2, 0, 8));
         bad("a title far above", with(2, 128, 0));
+        good("all titles of the other one", with(2 + 54, 0, 7));
+        bad("a title of the other one that is not there", with(2 + 54, 0, 8));
         bad("bullets that lack", with(RIVER + 3, 2));
         bad("a bullet too many", with(RIVER + 3, 0));
         bad("a bullet of 0", with(RIVER + 4, 0, 0));
@@ -183,10 +185,25 @@ public final class ImageTest {
         good("9999999 ounces", with(RIVER, river >> 16, river >> 8 & 255, river & 255));
         river++;
         bad("10000000 ounces", with(RIVER, river >> 16, river >> 8 & 255, river & 255));
+        byte[] heavy = bullets(3);
+        heavy[RIVER + 4] = 2;
+        heavy[RIVER + 6] = 3;
+        heavy[RIVER + 8] = 4;
+        river = 9999999 - (x.lead(4) - x.lead(2) - x.lead(3)) - 3 - 256 * 9;
+        putRiver(heavy, river);
+        good("9999999 ounces with bullets", Check.sealed(heavy));
+        putRiver(heavy, river + 1);
+        bad("10000000 ounces with bullets", Check.sealed(heavy));
         byte[] most = Check.image(busy());
         Arrays.fill(most, 4, 2 + 54, (byte) 255);
         Arrays.fill(most, HEAP, RIVER + 3, (byte) 255);
         bad("more than all", Check.sealed(most));
+    }
+
+    private static void putRiver(byte[] image, int ounces) {
+        image[RIVER] = (byte) (ounces >> 16);
+        image[RIVER + 1] = (byte) (ounces >> 8);
+        image[RIVER + 2] = (byte) ounces;
     }
 
     private static void otherLand() {

@@ -15,6 +15,7 @@ public final class LandTest {
         bracketFaults();
         faultLeavesAll();
         landForgets();
+        landIsWhole();
         names();
         Check.finish();
     }
@@ -184,6 +185,8 @@ public final class LandTest {
         bad("bears 5@when all;", 1);
         bad("bears 1@abcdefg when all;", 1);
         bad("letter a@5;", 1);
+        bad("age 5@x 5;", 1);
+        bad(ONE + "has ada@9;", 1);
         bad("letter @ab 5;", 1);
         bad("letter @min 5;", 1);
         bad("heap @ab 5;", 1);
@@ -267,6 +270,10 @@ public final class LandTest {
         bad("bears min(max(min(max(min(max(min(max@((1),2),2),2),2),2),2),2),2) when all;"
                 .replace("max@((1)", "max(@(1)"), 5);
         bad("bears ((((((((min@(1,2))))))))) when all;", 5);
+        good("bears max(1,(((((((2)))))))) when all;", 1);
+        bad("bears max(1,(((((((@(2))))))))) when all;", 5);
+        good("bears max((((((((2))))))),1) when all;", 1);
+        bad("bears max((((((((@(2)))))))),1) when all;", 5);
         bad("bears ((((((((@[1", 1);
         good("bears " + "(1)+".repeat(20) + "1 when [all] and [all] and [all] and [all] and [all] "
                 + "and [all] and [all] and [all] and [all] and [all];", 1);
@@ -323,6 +330,31 @@ public final class LandTest {
         Check.same("the seed stays", x.feast(), y.feast());
         Check.same("the seed stays", x.person(0, 4), y.person(0, 4));
         Check.same("the seed stays", x.person(1, 4), y.person(1, 4));
+    }
+
+    private static void landIsWhole() {
+        String bare = "person p born 0 lifts 0 dents 0;person q born 0 lifts 0 dents 0;"
+                + "title ab honour 1;title c honour 1;";
+        LeadNames x = Check.landed(bare + "has p ab;has q c;heap a 9;letter a 3;year 5;age 0 7;"
+                + "bears 5 when all;bridge b 1;");
+        // Whatever is kept from land to land inside, none of it is seen.
+        for (int i = 0; i < 4; i++) {
+            x.steal(1, 0, 'a');
+            Check.tape(x, bare);
+            Check.same("land", x.land(), 4);
+            Check.same("no ab", x.person(0, 4), 0);
+            Check.same("no c", x.person(1, 4), 0);
+            Check.same("no loose letters", x.person(0, 5) + x.person(1, 5), 0);
+            Check.same("no heap", x.lead(1), 0);
+            Check.same("no lead", x.lead(4), 0);
+            Check.same("ounces", x.ounces('a'), 10);
+            Check.same("title's ounces", x.title(0, 0), 20);
+            Check.same("year", x.has(5), 0);
+            Check.same("ages", x.has(2), 0);
+            Check.same("laws", x.has(3), 0);
+            Check.same("bridges", x.has(4), 0);
+            Check.same("limit", x.person(0, 1), 0);
+        }
     }
 
     private static void names() {
