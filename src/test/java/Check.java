@@ -4,8 +4,18 @@ import java.nio.charset.StandardCharsets;
 final class Check {
     private static int checks = 0;
     private static int wrong = 0;
+    private static String about = "";
 
     private Check() {
+    }
+
+    /** What the checks that follow are about; it stands ahead of each answer that is not as due. */
+    static void about(String what) {
+        about = what;
+    }
+
+    static int checks() {
+        return checks;
     }
 
     static void same(String what, long got, long due) {
@@ -13,9 +23,14 @@ final class Check {
         if (got != due) {
             wrong++;
             if (wrong <= 40) {
-                System.out.println(what + " answered " + got + ", due is " + due);
+                System.out.println(about + what + " answered " + got + ", due is " + due);
             }
         }
+    }
+
+    static void same(String what, String got, String due) {
+        same(what + (got.equals(due) ? "" : " (" + got + " and " + due + ")"),
+                got.equals(due), true);
     }
 
     static void same(String what, boolean got, boolean due) {
@@ -55,6 +70,25 @@ final class Check {
         x.land();
         same("fault of " + text, x.fault(0), 0);
         return x;
+    }
+
+    /** A land without a fault. */
+    static void good(String text, int statements) {
+        LeadNames x = new LeadNames();
+        tape(x, text);
+        same("land " + text, x.land(), statements);
+        same("fault of " + text, x.fault(0), 0);
+        same("place of " + text, x.fault(1), -1);
+    }
+
+    /** A land with a fault: its place is where the @ stands. */
+    static void bad(String marked, int fault) {
+        int place = marked.indexOf('@');
+        LeadNames x = new LeadNames();
+        tape(x, marked.substring(0, place) + marked.substring(place + 1));
+        same("land " + marked, x.land(), -1);
+        same("fault of " + marked, x.fault(0), fault);
+        same("place of " + marked, x.fault(1), place);
     }
 
     static byte[] image(LeadNames x) {

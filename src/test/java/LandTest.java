@@ -75,43 +75,26 @@ public final class LandTest {
         Check.same("year", x.has(5), 99);
     }
 
-    private static void good(String text, int statements) {
-        LeadNames x = new LeadNames();
-        Check.tape(x, text);
-        Check.same("land " + text, x.land(), statements);
-        Check.same("fault of " + text, x.fault(0), 0);
-        Check.same("place of " + text, x.fault(1), -1);
-    }
-
-    /** The place of the fault is where the @ stands. */
-    private static void bad(String marked, int fault) {
-        int place = marked.indexOf('@');
-        String text = marked.substring(0, place) + marked.substring(place + 1);
-        LeadNames x = new LeadNames();
-        Check.tape(x, text);
-        Check.same("land " + marked, x.land(), -1);
-        Check.same("fault of " + marked, x.fault(0), fault);
-        Check.same("place of " + marked, x.fault(1), place);
-    }
-
     private static void goodLands() {
-        good("", 0);
-        good(" \n ", 0);
-        good("year 0;", 1);
-        good("\nyear\n7\n;\n", 1);
-        good("year 0001;", 1);
-        good("letter a 1;letter a 99;letter z 5;", 3);
-        good("heap a 0;heap a 99;", 2);
-        good("person a born 0 lifts 0 dents 0;title b honour 0;bridge c 0;has a b;", 4);
-        good("person abcdef born 99 lifts 999 dents 100;title zyxwvu honour 999;bridge q 9999;", 3);
-        good("age 0 0;age 1 200;age 2 5;age 50 7;age 98 1;age 99 2;", 6);
-        good("bears 0 when all;bears 9999 when not all;bears 1when(2)>3;".replace("1w", "1 w"), 3);
-        good("bears person+old-force*honour/names%min(1,2)-max(3,(4))when[all]and not[all or 1<2];", 1);
-        good("bears ((((((((1)))))))) when [[[[[[[[all]]]]]]]];", 1);
-        good("bears 1 when [[[[((((1))))=1]]]] or (1)>(2);", 1);
-        good("bears min(max(min(max(min(max(min(max(1,2),2),2),2),2),2),2),2) when all;", 1);
-        good("letter a 5;person a born 1 lifts 1 dents 1;", 2);
-        good("bears 1 when " + "not ".repeat(380) + "all;", 1);
+        Check.good("", 0);
+        Check.good(" \n ", 0);
+        Check.good("year 0;", 1);
+        Check.good("\nyear\n7\n;\n", 1);
+        Check.good("year 0001;", 1);
+        Check.good("letter a 1;letter a 99;letter z 5;", 3);
+        Check.good("heap a 0;heap a 99;", 2);
+        Check.good("person a born 0 lifts 0 dents 0;title b honour 0;bridge c 0;has a b;", 4);
+        Check.good("person abcdef born 99 lifts 999 dents 100;title zyxwvu honour 999;"
+                + "bridge q 9999;", 3);
+        Check.good("age 0 0;age 1 200;age 2 5;age 50 7;age 98 1;age 99 2;", 6);
+        Check.good("bears 0 when all;bears 9999 when not all;bears 1 when(2)>3;", 3);
+        Check.good("bears person+old-force*honour/names%min(1,2)-max(3,(4))when[all]and not[all "
+                + "or 1<2];", 1);
+        Check.good("bears ((((((((1)))))))) when [[[[[[[[all]]]]]]]];", 1);
+        Check.good("bears 1 when [[[[((((1))))=1]]]] or (1)>(2);", 1);
+        Check.good("bears min(max(min(max(min(max(min(max(1,2),2),2),2),2),2),2),2) when all;", 1);
+        Check.good("letter a 5;person a born 1 lifts 1 dents 1;", 2);
+        Check.good("bears 1 when " + "not ".repeat(380) + "all;", 1);
     }
 
     private static void statements() {
@@ -131,113 +114,113 @@ public final class LandTest {
     }
 
     private static void firstFaults() {
-        bad("year 5@", 1);
-        bad("year @;", 1);
-        bad("year 5  \n@", 1);
-        bad("@;", 1);
-        bad("@5;", 1);
-        bad("@nonsense".replace("nonsense", "nons"), 1);
-        bad("year 5;@;", 1);
-        bad("@Year 5;", 1);
-        bad("@\tyear 5;", 1);
-        bad("year@\t5;", 1);
-        bad("year @-5;", 1);
-        bad("year 5@,", 1);
-        bad("year 5 @6;", 1);
-        bad("@when 5;", 1);
-        bad("bears 5 @;", 1);
-        bad("bears @when all;", 1);
-        bad("bears 5 when @;", 1);
-        bad("bears 5 when 5@;", 1);
-        bad("bears 5 when 5>@;", 1);
-        bad("bears 5 when 5>5@>5;", 1);
-        bad("bears 5 when 5>5 and@;", 1);
-        bad("bears 5 when all@+5;", 1);
-        bad("bears 5 when [all]@>5;", 1);
-        bad("bears 5 when [all@;", 1);
-        bad("bears 5 when (5@];", 1);
-        bad("bears 5 when (@all);", 1);
-        bad("bears 5 when (5)@;", 1);
-        bad("bears 5 when @-5>1;", 1);
-        bad("bears 5+@+5 when all;", 1);
-        bad("bears min@5 when all;".replace("min", "min "), 1);
-        bad("bears min(5@) when all;", 1);
-        bad("bears min(5,5@,5) when all;", 1);
-        bad("bears @ada when all;", 1);
-        bad("bears 1 when not@", 1);
-        bad("bears @not when all;", 1);
-        bad("bears @[1] when all;", 1);
-        bad("bears 1 when 1<2 @old;", 1);
-        bad("title tea honour 5@title", 1);
+        Check.bad("year 5@", 1);
+        Check.bad("year @;", 1);
+        Check.bad("year 5  \n@", 1);
+        Check.bad("@;", 1);
+        Check.bad("@5;", 1);
+        Check.bad("@nonsense".replace("nonsense", "nons"), 1);
+        Check.bad("year 5;@;", 1);
+        Check.bad("@Year 5;", 1);
+        Check.bad("@\tyear 5;", 1);
+        Check.bad("year@\t5;", 1);
+        Check.bad("year @-5;", 1);
+        Check.bad("year 5@,", 1);
+        Check.bad("year 5 @6;", 1);
+        Check.bad("@when 5;", 1);
+        Check.bad("bears 5 @;", 1);
+        Check.bad("bears @when all;", 1);
+        Check.bad("bears 5 when @;", 1);
+        Check.bad("bears 5 when 5@;", 1);
+        Check.bad("bears 5 when 5>@;", 1);
+        Check.bad("bears 5 when 5>5@>5;", 1);
+        Check.bad("bears 5 when 5>5 and@;", 1);
+        Check.bad("bears 5 when all@+5;", 1);
+        Check.bad("bears 5 when [all]@>5;", 1);
+        Check.bad("bears 5 when [all@;", 1);
+        Check.bad("bears 5 when (5@];", 1);
+        Check.bad("bears 5 when (@all);", 1);
+        Check.bad("bears 5 when (5)@;", 1);
+        Check.bad("bears 5 when @-5>1;", 1);
+        Check.bad("bears 5+@+5 when all;", 1);
+        Check.bad("bears min@5 when all;".replace("min", "min "), 1);
+        Check.bad("bears min(5@) when all;", 1);
+        Check.bad("bears min(5,5@,5) when all;", 1);
+        Check.bad("bears @ada when all;", 1);
+        Check.bad("bears 1 when not@", 1);
+        Check.bad("bears @not when all;", 1);
+        Check.bad("bears @[1] when all;", 1);
+        Check.bad("bears 1 when 1<2 @old;", 1);
+        Check.bad("title tea honour 5@title", 1);
     }
 
     private static void wordFaults() {
-        bad("abcdef@g", 1);
-        bad("letter@x a 5;", 1);
-        bad("title abcdef@gh honour 5;", 1);
-        bad("year 1234@5;", 1);
-        bad("1234@5", 1);
-        bad("letter abcdef@g 5;", 1);
-        bad("letter 1234@5 5;", 1);
-        bad("year abcdef@g;", 1);
-        bad("year@5;", 1);
-        bad("year@12345;", 1);
-        bad("bears 5@when all;", 1);
-        bad("bears 1@abcdefg when all;", 1);
-        bad("letter a@5;", 1);
-        bad("age 5@x 5;", 1);
-        bad(ONE + "has ada@9;", 1);
-        bad("letter @ab 5;", 1);
-        bad("letter @min 5;", 1);
-        bad("heap @ab 5;", 1);
-        bad("heap @5 5;", 1);
-        bad("title @old honour 5;", 1);
-        bad("title @letter honour 5;", 1);
-        bad("person @max born 5 lifts 5 dents 5;", 1);
-        bad("bridge @all 5;", 1);
-        bad("person ada @lifts 5;", 1);
-        bad("person ada born 5 @dents 5;", 1);
-        bad(ONE + "has @person tea;", 1);
-        bad(ONE + "has ada @honour;", 1);
+        Check.bad("abcdef@g", 1);
+        Check.bad("letter@x a 5;", 1);
+        Check.bad("title abcdef@gh honour 5;", 1);
+        Check.bad("year 1234@5;", 1);
+        Check.bad("1234@5", 1);
+        Check.bad("letter abcdef@g 5;", 1);
+        Check.bad("letter 1234@5 5;", 1);
+        Check.bad("year abcdef@g;", 1);
+        Check.bad("year@5;", 1);
+        Check.bad("year@12345;", 1);
+        Check.bad("bears 5@when all;", 1);
+        Check.bad("bears 1@abcdefg when all;", 1);
+        Check.bad("letter a@5;", 1);
+        Check.bad("age 5@x 5;", 1);
+        Check.bad(ONE + "has ada@9;", 1);
+        Check.bad("letter @ab 5;", 1);
+        Check.bad("letter @min 5;", 1);
+        Check.bad("heap @ab 5;", 1);
+        Check.bad("heap @5 5;", 1);
+        Check.bad("title @old honour 5;", 1);
+        Check.bad("title @letter honour 5;", 1);
+        Check.bad("person @max born 5 lifts 5 dents 5;", 1);
+        Check.bad("bridge @all 5;", 1);
+        Check.bad("person ada @lifts 5;", 1);
+        Check.bad("person ada born 5 @dents 5;", 1);
+        Check.bad(ONE + "has @person tea;", 1);
+        Check.bad(ONE + "has ada @honour;", 1);
         for (String own : ("letter person born lifts dents title honour has heap age bears bridge "
                 + "year when or and not all old force names min max").split(" ")) {
-            bad("title @" + own + " honour 5;", 1);
+            Check.bad("title @" + own + " honour 5;", 1);
         }
     }
 
     private static void nameFaults() {
-        bad(ONE + "person @ada born 5 lifts 5 dents 5;", 2);
-        bad(ONE + "person @tea born 5 lifts 5 dents 5;", 2);
-        bad(ONE + "title @ada honour 5;", 2);
-        bad(ONE + "bridge @tea 5;", 2);
-        bad(ONE + "bridge sill 5;title @sill honour 5;", 2);
-        bad(ONE + "title @tea999;", 2);
-        bad(ONE + "has @ben tea;", 3);
-        bad(ONE + "has @tea tea;", 3);
-        bad(ONE + "has ada @ada;", 3);
-        bad(ONE + "has ada @ten;", 3);
-        bad(ONE + "has @ben9;", 3);
-        bad(ONE + "has ada tea;has ada @tea;", 3);
-        bad("has @ada tea;" + ONE, 3);
-        bad(ONE + "bridge sill 5;has ada @sill;", 3);
+        Check.bad(ONE + "person @ada born 5 lifts 5 dents 5;", 2);
+        Check.bad(ONE + "person @tea born 5 lifts 5 dents 5;", 2);
+        Check.bad(ONE + "title @ada honour 5;", 2);
+        Check.bad(ONE + "bridge @tea 5;", 2);
+        Check.bad(ONE + "bridge sill 5;title @sill honour 5;", 2);
+        Check.bad(ONE + "title @tea999;", 2);
+        Check.bad(ONE + "has @ben tea;", 3);
+        Check.bad(ONE + "has @tea tea;", 3);
+        Check.bad(ONE + "has ada @ada;", 3);
+        Check.bad(ONE + "has ada @ten;", 3);
+        Check.bad(ONE + "has @ben9;", 3);
+        Check.bad(ONE + "has ada tea;has ada @tea;", 3);
+        Check.bad("has @ada tea;" + ONE, 3);
+        Check.bad(ONE + "bridge sill 5;has ada @sill;", 3);
     }
 
     private static void numberFaults() {
-        bad("letter a @0;", 4);
-        bad("letter a @100;", 4);
-        bad("heap a @100;", 4);
-        bad("year @100;", 4);
-        bad("person a born @100 lifts 1 dents 1;", 4);
-        bad("person a born 1 lifts @1000 dents 1;", 4);
-        bad("person a born 1 lifts 1 dents @101;", 4);
-        bad("title a honour @1000;", 4);
-        bad("title a honour @1000x", 4);
-        bad("age @100 5;", 4);
-        bad("age 5 @201;", 4);
-        bad("age 5 5;age @5 5;", 4);
-        bad("age 5 5;age @4 5;", 4);
-        bad("age 99 5;age @99 5;", 4);
-        bad("letter a 1000@0;", 1);
+        Check.bad("letter a @0;", 4);
+        Check.bad("letter a @100;", 4);
+        Check.bad("heap a @100;", 4);
+        Check.bad("year @100;", 4);
+        Check.bad("person a born @100 lifts 1 dents 1;", 4);
+        Check.bad("person a born 1 lifts @1000 dents 1;", 4);
+        Check.bad("person a born 1 lifts 1 dents @101;", 4);
+        Check.bad("title a honour @1000;", 4);
+        Check.bad("title a honour @1000x", 4);
+        Check.bad("age @100 5;", 4);
+        Check.bad("age 5 @201;", 4);
+        Check.bad("age 5 5;age @5 5;", 4);
+        Check.bad("age 5 5;age @4 5;", 4);
+        Check.bad("age 99 5;age @99 5;", 4);
+        Check.bad("letter a 1000@0;", 1);
     }
 
     private static String many(String form, int n) {
@@ -253,30 +236,29 @@ public final class LandTest {
             "bears $ when all;", "bridge b# 6;"};
         int[] most = {8, 12, 6, 8, 4};
         for (int i = 0; i < forms.length; i++) {
-            good(many(forms[i], most[i]), most[i]);
-            bad(many(forms[i], most[i]) + "@" + many(forms[i], 1), 5);
+            Check.good(many(forms[i], most[i]), most[i]);
+            Check.bad(many(forms[i], most[i]) + "@" + many(forms[i], 1), 5);
         }
-        bad(many(forms[0], 8) + "@person 5;", 5);
-        bad(many(forms[0], 8) + "@person", 5);
-        bad(many(forms[2], 6) + "year 5;\n @age 0 0;", 5);
-        good(many("letter a $;letter b 1;", 10).substring(11), 19);
+        Check.bad(many(forms[0], 8) + "@person 5;", 5);
+        Check.bad(many(forms[0], 8) + "@person", 5);
+        Check.bad(many(forms[2], 6) + "year 5;\n @age 0 0;", 5);
+        Check.good(many("letter a $;letter b 1;", 10).substring(11), 19);
     }
 
     private static void bracketFaults() {
-        bad("bears ((((((((@(1))))))))) when all;", 5);
-        bad("bears 1 when [[[[[[[[@[all]]]]]]]]];", 5);
-        bad("bears 1 when [[[[((((@(1)))))=1]]]];", 5);
-        bad("bears 1 when [[[[[[[[@(1)=1]]]]]]]];", 5);
-        bad("bears min(max(min(max(min(max(min(max@((1),2),2),2),2),2),2),2),2) when all;"
+        Check.bad("bears ((((((((@(1))))))))) when all;", 5);
+        Check.bad("bears 1 when [[[[[[[[@[all]]]]]]]]];", 5);
+        Check.bad("bears 1 when [[[[((((@(1)))))=1]]]];", 5);
+        Check.bad("bears 1 when [[[[[[[[@(1)=1]]]]]]]];", 5);
+        Check.bad("bears min(max(min(max(min(max(min(max@((1),2),2),2),2),2),2),2),2) when all;"
                 .replace("max@((1)", "max(@(1)"), 5);
-        bad("bears ((((((((min@(1,2))))))))) when all;", 5);
-        good("bears max(1,(((((((2)))))))) when all;", 1);
-        bad("bears max(1,(((((((@(2))))))))) when all;", 5);
-        good("bears max((((((((2))))))),1) when all;", 1);
-        bad("bears max((((((((@(2)))))))),1) when all;", 5);
-        bad("bears ((((((((@[1", 1);
-        good("bears " + "(1)+".repeat(20) + "1 when [all] and [all] and [all] and [all] and [all] "
-                + "and [all] and [all] and [all] and [all] and [all];", 1);
+        Check.bad("bears ((((((((min@(1,2))))))))) when all;", 5);
+        Check.good("bears max(1,(((((((2)))))))) when all;", 1);
+        Check.bad("bears max(1,(((((((@(2))))))))) when all;", 5);
+        Check.good("bears max((((((((2))))))),1) when all;", 1);
+        Check.bad("bears max((((((((@(2)))))))),1) when all;", 5);
+        Check.bad("bears ((((((((@[1", 1);
+        Check.good("bears " + "(1)+".repeat(20) + "1 when [all]" + " and [all]".repeat(9) + ";", 1);
     }
 
     private static void faultLeavesAll() {
