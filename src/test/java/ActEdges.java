@@ -23,7 +23,8 @@ final class ActEdges {
 
     private static void tellTitle(Edges doc) {
         doc.in("Promise 9");
-        doc.holds("Of a TITLE: 0 OUNCES, 1 honour, 2 how many letters, 3 who has it (bits).", () -> {
+        doc.holds("Of a TITLE: 0 OUNCES, 1 honour, 2 how many letters, 3 who has it (bits).",
+                () -> {
             LeadNames x = Check.landed("letter a 99;title aaaaaa honour 999;title b honour 0;"
                     + World.persons(8, 0) + World.many("has p# b;", 8));
             int[] first = {594, 999, 6, 0};
@@ -50,8 +51,8 @@ final class ActEdges {
     private static void tellPerson(Edges doc) {
         doc.in("Promise 10");
         doc.holds("Of a PERSON: 0 AGE, 1 LIMIT, 2 LOAD, 3 HONOUR, 4 its TITLES (bits), 5 how many "
-                + "LOOSE letters, 6 THE BEST SET of all TITLES in its LIMIT (bits), 7 the honour of "
-                + "that, 8 CALLED (bits).", () -> {
+                + "LOOSE letters, 6 THE BEST SET of all TITLES in its LIMIT (bits), 7 the honour "
+                + "of that, 8 CALLED (bits).", () -> {
             Picture picture = Picture.of(51, 1, 20, 0, 0).with(1, "abb");
             // In 60 ccc has 30; in 0 there is none; in 120 all but ab and d have 45, with ab 50.
             int[][] due = {{41, 60, 12, 5, 1, 0, 8, 30, 3}, {31, 120, 61, 9, 20, 3, 15, 50, 23},

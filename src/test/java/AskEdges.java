@@ -387,6 +387,10 @@ final class AskEdges {
             last[image.length - 1] ^= 1;
             refused("the last byte", last);
             refused("a last byte that is like it mod 239", likeMod239());
+            byte[] nought = endsIn(0);
+            LeadNames x = World.busy();
+            Check.tape(x, nought);
+            Check.same("a last byte of 0", x.on(), true);
             byte[] lacks = bare().bytes();
             lacks[lacks.length - 2] = 1;
             refused("a bullet that lacks", Check.sealed(lacks));
@@ -430,6 +434,9 @@ final class AskEdges {
             Picture taken = Picture.of(50, 0, 0, 0, 1).with(2, "a").with(-1, "z").shot(7);
             Picture refused = Picture.of(50, 0, 0, 0, 1).with(2, "a").with(-1, "z").shot(7);
             edge("all together", taken.drowned(9999999 - 34), refused.drowned(9999999 - 33));
+            Picture heavy = bare().shot(65535, 7, 600, 1);
+            Picture heavier = bare().shot(65535, 7, 600, 1);
+            edge("with bullets", heavy.drowned(9999999 - 66143), heavier.drowned(9999999 - 66142));
             refused("the most of three bytes", bare().drowned(0xffffff).bytes());
         });
         doc.holds("and of letters, in TITLES, LOOSE and in THE HEAP, 9999 at most", () -> {
@@ -459,24 +466,29 @@ final class AskEdges {
         });
     }
 
-    /** An image whose last byte is 16 at most, with 239 more there. */
-    private static byte[] likeMod239() {
+    /** An image with such a last byte, which is due. */
+    private static byte[] endsIn(int last) {
+        int year = 0;
         byte[] image = bare().bytes();
-        for (int year = 0; year < 999; year++) {
+        while (image[image.length - 1] != last) {
             image = Picture.of(year, 0, 0, 0, 0).bytes();
-            if ((image[image.length - 1] & 255) <= 16) {
-                break;
-            }
+            year++;
         }
+        return image;
+    }
+
+    /** An image with 239 more than is due in its last byte. */
+    private static byte[] likeMod239() {
+        byte[] image = endsIn(5);
         image[image.length - 1] += (byte) 239;
         return image;
     }
 
     private static void tellStatus(Edges doc) {
         doc.in("Promise 37");
-        doc.holds("REFUSALS so far: 0 of feed() and end(), 1 of land(), 2 of gain(), shed(), steal(), "
-                + "trade(), 3 of lend(), giveBack(), drown(), melt(), heir(), 4 of years(), seed(), "
-                + "5 of on().", AskEdges::refusals);
+        doc.holds("REFUSALS so far: 0 of feed() and end(), 1 of land(), 2 of gain(), shed(), "
+                + "steal(), trade(), 3 of lend(), giveBack(), drown(), melt(), heir(), 4 of "
+                + "years(), seed(), 5 of on().", AskEdges::refusals);
         doc.holds("NONE for others.", () -> {
             int[] others = {6, 7, -1, LEAST, MOST};
             for (int what : others) {

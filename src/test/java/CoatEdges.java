@@ -252,6 +252,11 @@ final class CoatEdges {
                     .lend(0, 1, 0), -1);
             Check.same("with them just the limit", Picture.of(0, 1, 2)
                     .in(land.replace("#", "17")).lend(0, 1, 0), 1);
+            // The limit is the one ahead, as of gain: without names q lifts 9 more, or less.
+            Check.same("more ahead", Picture.of(0, 1, 0).in(land.replace("#", "3")
+                    + "bears 9 when names=0;").lend(0, 1, 0), 1);
+            Check.same("more then", Picture.of(0, 1, 0).in(land.replace("#", "3")
+                    + "bears 9 when names=1;").lend(0, 1, 0), -1);
         });
         doc.holds("a LOAN (20 at most, in order", () -> {
             LeadNames x = Picture.of(0, 1, 0, 0).in(LAND);
@@ -290,6 +295,18 @@ final class CoatEdges {
             Check.same("the last", x.giveBack(1), true);
             Check.same("the first", x.giveBack(0), true);
             Check.same("none is left", x.giveBack(0), false);
+            // Those behind come up with all that they tell.
+            LeadNames z = Picture.of(0, 1, 2, 4).in(LAND + "bears 99 when all;");
+            z.lend(0, 1, 0);
+            z.lend(1, 2, 1);
+            z.lend(2, 0, 2);
+            z.giveBack(0);
+            int[][] left = {{1, 2, 1, 1}, {2, 0, 2, 1}};
+            for (int k = 0; k < left.length; k++) {
+                for (int what = 0; what < 4; what++) {
+                    Check.same("loan " + k + ", " + what, z.loan(k, what), left[k][what]);
+                }
+            }
             // Whatever the limit of who lent.
             LeadNames y = Picture.of(0, 0, 0, 1).in(LAND);
             y.lend(2, 0, 0);
@@ -380,6 +397,13 @@ final class CoatEdges {
         Check.same("no room at all", Picture.of(0, 3, 4).in(land.replace("#", "5")).heir(0, 1), 0);
         Check.same("above the limit", Picture.of(0, 3, 4).in(land.replace("#", "0")).heir(0, 1),
                 0);
+        // Not an ounce above the limit, nor at it.
+        String light = "letter a 1;person p born 0 lifts 0 dents 0;person q born 0 lifts # dents 0;"
+                + "title a honour 1;";
+        Check.same("an ounce", Picture.of(0, 1, 0).in(light.replace("#", "1")).heir(0, 1), 1);
+        Check.same("no ounce", Picture.of(0, 1, 0).in(light.replace("#", "0")).heir(0, 1), 0);
+        Check.same("less than none", Picture.of(0, 1, 0).with(1, "aaa").in(light.replace("#", "1"))
+                .heir(0, 1), 0);
         // The limit is the one ahead: with no names q lifts 12 more.
         Check.same("the limit ahead", Picture.of(0, 3, 0).in(land.replace("#", "12")
                 + "bears 12 when names=0;").heir(0, 1), 3);
@@ -391,8 +415,8 @@ final class CoatEdges {
     }
 
     private static void tellBestSet(Edges doc) {
-        doc.holds("THE BEST SET of some TITLES in so many ounces: that with the most honour together "
-                + "of all whose OUNCES together are not above that", () -> {
+        doc.holds("THE BEST SET of some TITLES in so many ounces: that with the most honour "
+                + "together of all whose OUNCES together are not above that", () -> {
             String titles = "title a honour 3;title bb honour 4;title ccc honour 6;";
             int[] due = {0, 1, 2, 3, 5, 6, 7, 7};
             for (int lifts = 0; lifts < due.length; lifts++) {
@@ -440,8 +464,8 @@ final class CoatEdges {
             Check.same("one more", years(Picture.of(7, 0, 0, 0), 1).has(5), 8);
             Check.same("sixty more", years(Picture.of(7, 0, 0, 0), 60).has(5), 67);
         });
-        doc.holds("each PERSON, by number, whose LOAD is above its LIMIT: its LOOSE letters come to "
-                + "THE HEAP", () -> {
+        doc.holds("each PERSON, by number, whose LOAD is above its LIMIT: its LOOSE letters come "
+                + "to THE HEAP", () -> {
             // p is just at 60, q an ounce or more above, r above 0.
             LeadNames x = years(Picture.of(0, 0, 1, 0).with(0, "ccc").with(1, "ccaaa")
                     .with(2, "a").with(-1, "c"), 1);
@@ -493,6 +517,10 @@ final class CoatEdges {
         Check.same("by numbers: b", z.moved(1, 4), 7);
         Check.same("all else is in the heap", z.lead(1), 5 + 7 + 18);
         Check.same("nothing can stay", Picture.of(0, 7).in(land.replace("#", "0")).years(1), 3);
+        // All others go, also those with which it could stay at the limit.
+        LeadNames v = Picture.of(0, 15).in(land.replace("#", "30") + "title d honour 0;");
+        Check.same("a and d go, though 26 ounces were left behind a", v.years(1), 2);
+        Check.same("b and c", v.person(0, 4), 6);
         // The limit is looked at once a year: with three names it is 7 more.
         LeadNames w = Picture.of(0, 7).in(land.replace("#", "9") + "bears 7 when names=3;");
         Check.same("in 16 ahead", w.years(1), 1);
@@ -571,22 +599,38 @@ final class CoatEdges {
             }
             Check.same("by 1103527590 / 64 % 13", x.person(0, 4), 1 << 17242618 % 13 >> 1);
         });
-        doc.holds("a DRAW of n: THE SEED becomes what is left of 1103515245 times it and 12345 by 2 "
-                + "to the 31; (THE SEED / 64) % n.", () -> {
+        doc.holds("a DRAW of n: THE SEED becomes what is left of 1103515245 times it and 12345 by "
+                + "2 to the 31; (THE SEED / 64) % n.", () -> {
             int[] seeds = {0, 1, 2, 63, 64, 4711, 1 << 30, Integer.MAX_VALUE - 1,
                 Integer.MAX_VALUE};
             for (int first : seeds) {
-                LeadNames x = Check.landed(feastLand());
-                x.seed(first);
-                x.feast();
-                long seed = first;
-                for (int p = 0; p < 8; p++) {
-                    seed = next(seed);
-                    Check.same("seed " + first + ", person " + p, x.person(p, 4),
-                            1 << seed / 64 % 13 >> 1);
-                }
+                threeFeasts(first);
             }
         });
+    }
+
+    /** One draw for each person, and no other, from feast to feast. */
+    private static void threeFeasts(int first) {
+        LeadNames x = Check.landed(feastLand());
+        x.seed(first);
+        long seed = first;
+        int[] bits = new int[8];
+        for (int feast = 1; feast <= 3; feast++) {
+            x.feast();
+            for (int p = 0; p < 8; p++) {
+                seed = next(seed);
+                int place = (int) (seed / 64 % (13 - Integer.bitCount(bits[p])));
+                for (int t = 0; t < 12; t++) {
+                    place -= bits[p] >> t & 1 ^ 1;
+                    if (place == 0 && (bits[p] >> t & 1) == 0) {
+                        bits[p] |= 1 << t;
+                        break;
+                    }
+                }
+                Check.same("seed " + first + ", feast " + feast + ", person " + p, x.person(p, 4),
+                        bits[p]);
+            }
+        }
     }
 
     /** Eight persons who could each gain any of twelve titles, whatever the others gain. */

@@ -53,6 +53,8 @@ final class LandEdges {
             Check.bad("bears 5@when all;", 1);
             Check.bad("title ab honour@5;", 1);
             Check.bad("age 5@age 5;", 1);
+            Check.bad(ADA + TEA + "has ada@5tea;", 1);
+            Check.bad(ADA + TEA + "has ada tea@5;", 1);
             Check.bad("@yeara 5;", 1);
             Check.bad("age 55@;", 1);
         });
@@ -193,6 +195,8 @@ final class LandEdges {
             Check.good(ADA + TEA + "has ada tea;", 3);
             Check.good(ADA + TEA + "person b born 1 lifts 1 dents 1;has ada tea;has b tea;", 5);
             Check.bad(ADA + TEA + "has ada tea;has ada @tea;", 3);
+            Check.bad(ADA + World.many("title # honour 5;", 12) + "has ada l;has ada k;has ada @l;",
+                    3);
             Check.bad(ADA + TEA + "has @tea tea;", 3);
             Check.bad(ADA + TEA + "has ada @ada;", 3);
             LeadNames x = Check.landed(World.persons(8, 5) + World.many("title # honour 0;", 12)
@@ -296,6 +300,10 @@ final class LandEdges {
             tests("not not not all", false);
             tests("not 1=2", true);
             tests("not all or all", true);
+            tests("not 1<2", false);
+            tests("not 2=2", false);
+            tests("not 3>2", false);
+            tests("1<2 and 2=2 and 3>2 and all", true);
             tests("not [all or all]", false);
             tests("1<2", true);
             tests("2<2", false);
@@ -415,8 +423,8 @@ final class LandEdges {
 
     private static void tellNames(Edges doc) {
         doc.holds("OWN WORDS, which no NAME is: letter, person, born, lifts, dents, title, honour, "
-                + "has, heap, age, bears, bridge, year, when, or, and, not, all, old, force, names, "
-                + "min, max.", () -> {
+                + "has, heap, age, bears, bridge, year, when, or, and, not, all, old, force, "
+                + "names, min, max.", () -> {
             for (String own : OWN.split(" ")) {
                 Check.bad("title @" + own + " honour 5;", 1);
                 Check.bad("person @" + own + " born 5 lifts 5 dents 5;", 1);
@@ -518,8 +526,8 @@ final class LandEdges {
     /** Behind each word, number and sign of a land that has everything. */
     private static void endsTooSoon() {
         String[] parts = ("letter a 5 ; person p born 1 lifts 2 dents 3 ; title t honour 4 ; "
-                + "has p t ; heap a 6 ; age 7 8 ; bears ( 1 + old ) * min ( 2 , 3 ) - max ( 4 , 5 ) "
-                + "when not [ all or 1 < 2 ] and person = 0 ; bridge b 9 ; year 10 ;").split(" ");
+                + "has p t ; heap a 6 ; age 7 8 ; bears ( 1 + old ) * min ( 2 , 3 ) - max ( 4 "
+                + ", 5 ) when not [ all or 1 < 2 ] and person = 0 ; bridge b 9 ; year 10 ;").split(" ");
         String text = "";
         int statements = 0;
         for (String part : parts) {
@@ -595,9 +603,11 @@ final class LandEdges {
             Check.bad("bears 1 when [[[[[[[[1=@(1)]]]]]]]];", 5);
             Check.bad("bears ((((((((min@(1,2))))))))) when all;", 5);
             Check.bad("bears max(1,(((((((@(1))))))))) when all;", 5);
+            Check.bad("bears max((((((((@(1)))))))),1) when all;", 5);
             Check.bad("bears ((((((((@(", 5);
             // Open at once, not in all.
-            Check.good("bears " + "(1)+".repeat(9) + "1 when " + "[all] and ".repeat(9) + "all;", 1);
+            Check.good("bears " + "(1)+".repeat(9) + "1 when " + "[all] and ".repeat(9) + "all;",
+                    1);
             Check.good("bears ((((((((1)))))))) when ((((((((1))))))))=((((((((1))))))));", 1);
         });
     }

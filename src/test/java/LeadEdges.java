@@ -130,12 +130,16 @@ final class LeadEdges {
                 Check.same("the other one of " + kind, allKinds().moved(kind, 3), due[kind]);
             }
         });
-        doc.holds("ounces (of GAIN those out of THE HEAP, of TRADE those that the first one gave, of "
-                + "HEIR what the other one got, of DROWN all)", () -> {
+        doc.holds("ounces (of GAIN those out of THE HEAP, of TRADE those that the first one gave, "
+                + "of HEIR what the other one got, of DROWN all)", () -> {
             int[] due = {7, 12, 5, 20, 12, 12, 12 + 5, 32, 17};
             for (int kind = 0; kind <= 8; kind++) {
                 Check.same("ounces of " + kind, allKinds().moved(kind, 4), due[kind]);
             }
+            // Of what the other one had, and of what came to the heap, nothing.
+            LeadNames x = Picture.of(0, 3, 1, 0).with(0, "c").with(1, "c").in(LAND);
+            x.heir(0, 1);
+            Check.same("ba alone", x.moved(0, 4), 12);
         });
         doc.holds("the last 60 are kept, the oldest go.", () -> {
             LeadNames x = Check.landed(LAND);
@@ -366,8 +370,12 @@ final class LeadEdges {
             row("a", "ab", 2, 3);
             row("b", "ab", 2, 3);
             row("b", "abc", 3, 33);
+            row("c", "abcba", 5, 36);
+            row("bc", "aaabca", 6, 36);
+            row("c", "aaaaca", 6, 35);
             row("bcab", "abcabc", 6, 66);
             row("aa", "aaaaaa", 6, 6);
+            row("a", "hhbbbb", 7, 29);
             row("aaaaa", "aaaaaa", 6, 6);
             row("aba", "babab", 5, 8);
             row("abab", "baba", 5, 7);
@@ -405,6 +413,12 @@ final class LeadEdges {
             Check.same("three", loads(15, 3, 5, 9, 3, 5, 5, 8, 6).goings(0, 255), 3);
             Check.same("three", loads(14, 3, 9, 9, 2, 4, 7, 3, 5).goings(0, 255), 3);
             Check.same("without lead", loads(0, 0, 0, 0).goings(0, 7), 1);
+            // Each set alone, whatever was asked ahead of it.
+            LeadNames x = loads(15, 3, 5, 9, 3, 5, 5, 8, 6);
+            for (int set = 255; set >= 0; set--) {
+                Check.same("set " + set, x.goings(0, set),
+                        loads(15, 3, 5, 9, 3, 5, 5, 8, 6).goings(0, set));
+            }
         });
     }
 

@@ -140,6 +140,7 @@ final class TapeEdges {
             Check.same("none of none", y.end(0), true);
             Check.same("an empty land", y.land(), 0);
             Check.same("none of a new one", new LeadNames().end(0), true);
+            cutEverywhere();
         });
         doc.holds("false, doing nothing, if it has not so many, or n is below 0.", () -> {
             int[] wrong = {21, 40, 1600, 1601, MOST, -1, -20, LEAST};
@@ -155,6 +156,21 @@ final class TapeEdges {
         });
     }
 
+    /** Of the bytes behind the first n nothing is seen, also where they would go on. */
+    private static void cutEverywhere() {
+        String text = "letter a 17;year 99;title abcdef honour 999;heap a 10;";
+        for (int n = 0; n <= text.length(); n++) {
+            LeadNames x = new LeadNames();
+            LeadNames y = new LeadNames();
+            Check.tape(x, text);
+            Check.tape(y, text.substring(0, n));
+            x.end(n);
+            Check.same("land of the first " + n, x.land(), y.land());
+            Check.same("its fault", x.fault(0), y.fault(0));
+            Check.same("its place", x.fault(1), y.fault(1));
+        }
+    }
+
     private static void tellLand(Edges doc) {
         doc.in("Promise 4");
         doc.holds("The tape (it goes) is THE LAND: how many STATEMENTS", () -> {
@@ -168,6 +184,31 @@ final class TapeEdges {
             Check.same("it went too", x.end(1), false);
             Check.tape(x, "year 5;".repeat(228));
             Check.same("many", x.land(), 228);
+        });
+        doc.holds("is THE LAND", () -> {
+            // Nothing of the lands ahead of it, nor of what was read of one with a fault.
+            String rich = World.LAND + World.HAD + "age 0 9;age 5 7;bears 9 when all;bridge a 9;";
+            String small = "person v born 0 lifts 9 dents 0;person w born 0 lifts 9 dents 0;"
+                    + "title a honour 0;title b honour 0;bears 1 when 1>2;";
+            LeadNames x = new LeadNames();
+            LeadNames y = new LeadNames();
+            String[] lands = {rich, rich + "x", small, rich + "x", rich, small};
+            for (String land : lands) {
+                Check.tape(x, land);
+                x.land();
+            }
+            Check.tape(y, small);
+            y.land();
+            Check.same("all", State.of(x), State.of(y));
+        });
+        doc.holds("THE LAND: how many STATEMENTS", () -> {
+            // The longest law that there can be, as often as one likes.
+            String law = "bears " + "1+".repeat(791) + "1 when all;";
+            LeadNames x = new LeadNames();
+            for (int i = 0; i < 5; i++) {
+                Check.tape(x, law);
+                Check.same("land " + i, x.land(), 1);
+            }
         });
         doc.holds("NONE with a FAULT (all stays).", () -> {
             String[] faults = {"x", "letter a 9;heap a 9;year 7;person zed born 1 lifts 1 dents 1;"
