@@ -248,7 +248,14 @@ public final class LeadNames {
     }
 
     public int feast() {
-        return acts.holdFeast();
+        int gained = 0;
+        for (int person = 0; person < coats.land.persons.size; person++) {
+            int place = acts.draw(acts.gainable(person) + 1);
+            if (place > 0 && acts.makeTitle(person, acts.gainableAt(person, place)) != NONE) {
+                gained++;
+            }
+        }
+        return gained;
     }
 
     public boolean seed(int to) {
@@ -712,6 +719,7 @@ public final class LeadNames {
     /** Words, numbers and signs along a text, one at a time, and the first fault. */
     private static final class Reader {
         // Tokens: a sign is its byte; these are above all bytes; own words are from OWN on.
+        static final int LAST_SIGN = 255;
         static final int WORD = 300;
         static final int NUMBER = 301;
         static final int END = 302;
@@ -817,64 +825,59 @@ public final class LeadNames {
                 next++;
             }
             at = next;
-            if (at >= length) {
-                token = END;
-            } else if (isLetter(text[at])) {
-                readWord();
-            } else if (isDigit(text[at])) {
-                readNumber();
-            } else {
-                token = text[at];
+            token = at < length ? kindOf(text[at]) : END;
+            boolean isGlued = at > 0 && kindOf(text[at - 1]) > LAST_SIGN;
+            boolean fine = true;
+            if (token == WORD) {
+                fine = !isGlued && readWord();
+            } else if (token == NUMBER) {
+                fine = !isGlued && readNumber();
+            } else if (token != END) {
                 next++;
+            }
+            if (!fine) {
+                fail(1, next);
             }
             return fault == 0 ? token : BROKEN;
         }
 
-        private void readWord() {
-            if (at > 0 && isDigit(text[at - 1])) {
-                fail(1, at);
-                return;
+        private static int kindOf(int c) {
+            if (c >= 'a' && c <= 'z') {
+                return WORD;
             }
+            return c >= '0' && c <= '9' ? NUMBER : c;
+        }
+
+        /** False at a letter too many, where next then stands. */
+        private boolean readWord() {
             value = 0;
-            for (int k = 0; next < length && isLetter(text[next]); k++) {
+            while (next < length && text[next] >= 'a' && text[next] <= 'z') {
+                int k = next - at;
                 if (k >= NAME_LENGTH) {
-                    fail(1, next);
-                    return;
+                    return false;
                 }
                 value |= text[next] - FIRST_LETTER + 1 << k * NAME_BITS;
                 next++;
             }
-            token = WORD;
             for (int i = 0; i < OWN_WORDS; i++) {
                 if (ownNames[i] == value) {
                     token = OWN + i;
                 }
             }
+            return true;
         }
 
-        private void readNumber() {
-            if (at > 0 && isLetter(text[at - 1])) {
-                fail(1, at);
-                return;
-            }
+        /** False at a digit too many, where next then stands. */
+        private boolean readNumber() {
             value = 0;
-            for (int k = 0; next < length && isDigit(text[next]); k++) {
-                if (k >= DIGITS) {
-                    fail(1, next);
-                    return;
+            while (next < length && text[next] >= '0' && text[next] <= '9') {
+                if (next - at >= DIGITS) {
+                    return false;
                 }
                 value = value * 10 + text[next] - '0';
                 next++;
             }
-            token = NUMBER;
-        }
-
-        private static boolean isLetter(int c) {
-            return c >= 'a' && c <= 'z';
-        }
-
-        private static boolean isDigit(int c) {
-            return c >= '0' && c <= '9';
+            return true;
         }
     }
 
@@ -1122,12 +1125,12 @@ public final class LeadNames {
             }
             boolean fine;
             if (reader.look() == Reader.ALL) {
-                reader.skip();
-                fine = land.addCode(1);
+                fine = step(1);
             } else if (reader.look() == '[') {
                 fine = bracket(open) && test(open + 1) && token(']');
             } else {
-                fine = comparison(open);
+                int sign = sum(open) ? comparisonSign() : 0;
+                fine = sign != 0 && sum(open) && land.addCode(sign);
             }
             return fine && (!isTurned || land.addCode(Abacus.NOT));
         }
@@ -1140,19 +1143,17 @@ public final class LeadNames {
             return true;
         }
 
-        private boolean comparison(int open) {
-            if (!sum(open)) {
-                return false;
-            }
-            int step = 0;
+        /** The step of the sign that comes; 0 with a fault. */
+        private int comparisonSign() {
+            int sign = 0;
             switch (reader.look()) {
-                case '<': step = Abacus.LESS; break;
-                case '>': step = Abacus.MORE; break;
-                case '=': step = Abacus.LIKE; break;
-                default: return reader.failHere(1);
+                case '<': sign = Abacus.LESS; break;
+                case '>': sign = Abacus.MORE; break;
+                case '=': sign = Abacus.LIKE; break;
+                default: reader.failHere(1);
             }
             reader.skip();
-            return sum(open) && land.addCode(step);
+            return sign;
         }
 
         private boolean sum(int open) {
@@ -1845,18 +1846,8 @@ public final class LeadNames {
             return shed;
         }
 
-        int holdFeast() {
-            int gained = 0;
-            for (int person = 0; person < coats.land.persons.size; person++) {
-                int place = draw(gainable(person) + 1);
-                if (place > 0 && makeTitle(person, gainableAt(person, place)) != NONE) {
-                    gained++;
-                }
-            }
-            return gained;
-        }
-
-        private int gainable(int person) {
+        /** How many titles a person could gain now. */
+        int gainable(int person) {
             int count = 0;
             for (int title = 0; title < coats.land.titles.size; title++) {
                 count += coats.gainOunces(person, title) == NONE ? 0 : 1;
@@ -1865,7 +1856,7 @@ public final class LeadNames {
         }
 
         /** The title at a place, from 1 on, among those that a person could gain. */
-        private int gainableAt(int person, int place) {
+        int gainableAt(int person, int place) {
             int count = 0;
             for (int title = 0; title < coats.land.titles.size; title++) {
                 count += coats.gainOunces(person, title) == NONE ? 0 : 1;
@@ -1876,7 +1867,7 @@ public final class LeadNames {
             return NONE;
         }
 
-        private int draw(int n) {
+        int draw(int n) {
             seed = (1103515245L * seed + 12345L) % 2147483648L;
             return n <= 0 ? 0 : (int) (seed / 64 % n);
         }
