@@ -1,4 +1,10 @@
+import java.io.IOException;
 import java.nio.charset.StandardCharsets;
+import java.nio.file.Files;
+import java.nio.file.Path;
+import java.util.ArrayList;
+import java.util.List;
+import java.util.stream.Stream;
 
 /** What all tests use: texts onto the tape, answers against those that are due. */
 final class Check {
@@ -107,6 +113,17 @@ final class Check {
         }
         bytes[bytes.length - 1] = (byte) c;
         return bytes;
+    }
+
+    /** A directory of a test goes, with all that is in it. */
+    static void remove(Path directory) throws IOException {
+        List<Path> paths = new ArrayList<>();
+        try (Stream<Path> all = Files.walk(directory)) {
+            all.forEach(paths::add);
+        }
+        for (int i = paths.size() - 1; i >= 0; i--) {
+            Files.delete(paths.get(i));
+        }
     }
 
     static void finish() {
